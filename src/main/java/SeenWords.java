@@ -162,7 +162,7 @@ public final class SeenWords {
         if (n < 1 || n > texts.sizeAsOf(w, now) - from) {
             return OUTSIDE;
         }
-        if (!leaves(w, from, n)) {
+        if (!takeOut(w, from, n)) {
             return FULL;
         }
         return acted(texts.sizeAsOf(w, now + 1));
@@ -377,7 +377,7 @@ public final class SeenWords {
         int all = clash.words.length;
         int from = which == 0 ? clash.firstSize : 0;
         int to = which == 1 ? clash.firstSize : all;
-        if (!leaves(clash.writing, place + from, to - from)) {
+        if (!takeOut(clash.writing, place + from, to - from)) {
             return FULL;
         }
         clash.settled = true;
@@ -455,7 +455,7 @@ public final class SeenWords {
         int place = link.partFrom(end, version.places, 0);
         for (int k = 0; k < PLACES && place != NONE; k++) {
             parts++;
-            place = link.partFrom(end, version.places, place + link.partSize(end, version.places, place));
+            place = link.partBehind(end, version.places, place);
         }
         return parts;
     }
@@ -471,7 +471,7 @@ public final class SeenWords {
         }
         int place = link.partFrom(end, version.places, 0);
         for (int k = 0; k < PLACES && k < i && place != NONE; k++) {
-            place = link.partFrom(end, version.places, place + link.partSize(end, version.places, place));
+            place = link.partBehind(end, version.places, place);
         }
         if (place == NONE || i >= PLACES) {
             return UNKNOWN;
@@ -904,7 +904,7 @@ public final class SeenWords {
 
     /** The body of a kind, run for a link; bodies call those of kinds above them, three deep at most. */
     private int toldAs(Link link, int kind) {
-        leave(kind + 1);
+        noteBody(kind + 1);
         switch (kind) {
             case NOTE: return toldAs(link, LINK) + link.counts[1];
             case REPLY: return toldAs(link, NOTE) + toldAs(link, LINK);
@@ -914,7 +914,7 @@ public final class SeenWords {
         }
     }
 
-    private void leave(int body) {
+    private void noteBody(int body) {
         trail = 31 * trail + body;
     }
 
@@ -924,10 +924,10 @@ public final class SeenWords {
             return UNKNOWN;
         }
         if (link.kind == CORRECT) {
-            leave(7);
+            noteBody(7);
             return 40;
         }
-        leave(6);
+        noteBody(6);
         return l;
     }
 
@@ -1033,7 +1033,7 @@ public final class SeenWords {
     }
 
     /** Whether the row without these places has room for its pieces; it is the writing's then. */
-    private boolean leaves(int w, int from, int n) {
+    private boolean takeOut(int w, int from, int n) {
         texts.lift(w, from, n, now);
         return texts.keepLaid(w, now + 1);
     }
@@ -1855,6 +1855,10 @@ public final class SeenWords {
                 }
             }
             return NONE;
+        }
+
+        int partBehind(int end, int[] places, int part) {
+            return partFrom(end, places, part + partSize(end, places, part));
         }
 
         int partSize(int end, int[] places, int from) {

@@ -112,7 +112,7 @@ public final class TwinTest {
         int w = w(), v = v(), size = size(w), places = Math.max(0, plain.about(v, 3));
         int from = wild(below(size)), place = wild(below(places));
         switch (random.nextInt(64)) {
-            case 0: if (odds(30)) call("hand"); break;
+            case 0: if (odds(30)) call("hand"); if (odds(20)) someReading(); if (odds(20)) someVersionsApart(); break;
             case 1: call("group", k(), wild(below(1 << plain.many(1)))); break;
             case 2: if (odds(50)) call("writing", hand()); break;
             case 3: case 4: someWords(odds(10) ? 60 : 6); break;
@@ -187,11 +187,60 @@ public final class TwinTest {
         }
     }
 
+    /** A base and two versions that part from it, so that there is something to join and to settle. */
+    private void someVersionsApart() throws Exception {
+        int w = below(plain.many(2)), base = plain.many(4);
+        call("version", w);
+        int start = plain.many(0);
+        for (int k = 0; k < 2; k++) {
+            for (int e = 1 + below(3); e > 0; e--) {
+                int size = size(w);
+                if (odds(60)) call("seen", w, at(w), x(), 1 + below(3));
+                else if (size > 0) call("cut", w, below(size), 1);
+            }
+            call("version", w);
+            if (odds(90)) call("again", w, start);
+        }
+        call("join", base + 1 + below(2), base + 1 + below(2), odds(90) ? base : v());
+        if (plain.many(7) > 0) {
+            for (int k = 0; k < 5; k++) call("clash", plain.many(7) - 1, k);
+            if (odds(60)) call("settle", plain.many(7) - 1, below(3));
+        }
+    }
+
+    /** A given version that others may read, lend, owe for. */
+    private void someReading() throws Exception {
+        int w = below(plain.many(2)), group = below(4), hands = plain.many(1);
+        call("group", group, (1 << hands) - 1);
+        String[] uses = {"r", "rq", "rql", "lr", "l"};
+        for (int k = 0; k < plain.many(2); k++) {
+            if (odds(60)) {
+                String text = group + ":" + uses[below(5)] + "@" + below(9) + "-" + (odds(80) ? 9999 : plain.many(0) + below(9));
+                sheet(0, 0, text.chars().toArray());
+                call("right", k, 0, 0, 0, text.length());
+            }
+        }
+        call("version", w);
+        call("give", plain.many(4) - 1);
+        for (int k = 0; k < 4; k++) {
+            int hand = below(hands), to = below(hands);
+            call("read", hand, plain.many(4) - 1);
+            call("owes", hand, to);
+            call("pay", hand, to, 1 + below(15));
+            call("lend", r(), hand, to);
+            if (odds(20)) call("take", r());
+            if (odds(20)) call("group", group, below(1 << hands));
+        }
+    }
+
     private void begin() throws Exception {
         for (int h = 1 + below(3); h > 0; h--) call("hand");
         for (int w = 1 + below(4); w > 0; w--) call("writing", below(plain.many(1)));
         someWords(12);
         someWords(6);
+        if (odds(20)) {
+            for (int k = 0; k < 6; k++) someWords(60);
+        }
     }
 
     public static void main(String[] args) throws Exception {
@@ -200,6 +249,8 @@ public final class TwinTest {
         for (long seed = first; seed < first + runs && wrong < 3; seed++) {
             TwinTest run = new TwinTest(seed);
             run.begin();
+            for (int k = 0; k < seed % 4; k++) run.someVersionsApart();
+            for (int k = 0; k < seed % 3; k++) run.someReading();
             for (int k = 0; k < 40 + seed % 200 && !run.failed; k++) run.step();
             if (!run.failed) run.look();
         }
