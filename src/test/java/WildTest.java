@@ -56,6 +56,33 @@ public final class WildTest {
         }
     }
 
+    /** Twenty clashes in one join, more than there may ever be: refused, not thrown. */
+    private static void manyClashes() {
+        SeenWords object = new SeenWords();
+        object.hand();
+        for (int w = 0; w < 8; w++) object.writing(0);
+        object.sheet(0, 0, 60);
+        for (int i = 0; i < 60; i++) object.set(0, i, 1);
+        object.put(0, 0, 0, 0, 0, 60);
+        object.seen(1, 0, 0, 20);
+        object.version(1);
+        for (int side = 0; side < 2; side++) {
+            int whole = 2 + 3 * side;
+            for (int half = 0; half < 2; half++) {
+                for (int k = 9; k >= 0; k--) {
+                    object.seen(whole + 1 + half, 0, 10 * half + k, 1);
+                    object.seen(whole + 1 + half, 0, 20 + 20 * side + 10 * half + k, 1);
+                }
+                object.live(whole, 20 * half, whole + 1 + half, 0, 99);
+            }
+            object.version(whole);
+        }
+        if (object.about(2, 3) != 40 || object.join(1, 2, 0) != SeenWords.FULL || object.many(7) != 0) {
+            System.out.println("twenty clashes are not refused");
+            System.exit(1);
+        }
+    }
+
     public static void main(String[] args) throws Exception {
         List<Method> calls = new ArrayList<>();
         for (Method m : SeenWords.class.getDeclaredMethods()) {
@@ -71,6 +98,7 @@ public final class WildTest {
                 System.exit(1);
             }
         }
+        manyClashes();
         long start = System.nanoTime();
         deep();
         long millis = (System.nanoTime() - start) / 1000000;
