@@ -1388,11 +1388,14 @@ public final class SeenWords {
             return index + 1;
         }
 
-        /** Where on the bench a piece comes ahead of a place: behind such as show nothing there. */
+        /**
+         * Where on the bench a piece comes ahead of a place: behind such as show nothing there. What is beyond the
+         * places that are shown is no place, so at their end nothing is parted.
+         */
         private int openAhead(int place, int moment) {
             int start = 0;
             for (int p = 0; p < laid; p++) {
-                int end = start + sizeOf(bench[p], moment, 0);
+                int end = Math.min(PLACES, start + sizeOf(bench[p], moment, 0));
                 if (end > place) {
                     return start < place ? partAt(p, place - start) : p;
                 }
@@ -1401,11 +1404,14 @@ public final class SeenWords {
             return laid;
         }
 
-        /** Where on the bench what stands ahead of a place ends: ahead of such as show nothing there. */
+        /**
+         * Where on the bench what stands ahead of a place ends: ahead of such as show nothing there. At the end of
+         * what is shown a piece that goes on beyond stays whole, too.
+         */
         private int openBehind(int place, int moment) {
             int start = 0;
             for (int p = 0; p < laid; p++) {
-                int end = start + sizeOf(bench[p], moment, 0);
+                int end = Math.min(PLACES, start + sizeOf(bench[p], moment, 0));
                 if (end >= place) {
                     return end > place ? partAt(p, place - start) : p + 1;
                 }

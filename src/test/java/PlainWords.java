@@ -101,14 +101,15 @@ public final class PlainWords {
 
     private List<Integer> shows(int w, int m) { return rowShows(row(w, m), m, 0); }
 
-    /** One place of a piece, or (offset -1) a piece that shows nothing. */
+    /** One place that is shown of a piece (the last one stands for what is beyond, too), or (offset -1) a piece that shows nothing. */
     record Atom(Piece piece, int serial, int offset, boolean last) { }
 
     private List<Atom> atoms(List<Piece> row) {
         List<Atom> all = new ArrayList<>();
-        int serial = 0;
+        int serial = 0, room = 300;
         for (Piece p : row) {
-            int size = pieceShows(p, now(), 0).size();
+            int size = Math.min(room, pieceShows(p, now(), 0).size());
+            room -= size;
             if (size == 0) all.add(new Atom(p, serial, -1, true));
             for (int k = 0; k < size; k++) all.add(new Atom(p, serial, k, k == size - 1));
             serial++;

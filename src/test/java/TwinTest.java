@@ -62,7 +62,9 @@ public final class TwinTest {
     private int c() { return late(plain.many(7)); }
     private int moment() { return odds(40) ? wild(plain.many(0)) : one(plain.many(0) + 1); }
     private int size(int w) { return Math.max(0, plain.length(w, plain.many(0))); }
-    private int at(int w) { return wild(below(size(w) + 1)); }
+    private int at(int w) { return odds(10) ? size(w) : wild(below(size(w) + 1)); }
+    /** How many places leave from one on: few, or now and then all that are there. */
+    private int leaving(int there, int most) { return odds(15) ? wild(there) : wild(1 + below(Math.min(there, most))); }
     private int k() { return one(4); }
     private int stretch(int most) { return wild(1 + below(odds(10) ? 300 : most)); }
 
@@ -112,15 +114,15 @@ public final class TwinTest {
         int w = w(), v = v(), size = size(w), places = Math.max(0, plain.about(v, 3));
         int from = wild(below(size)), place = wild(below(places));
         switch (random.nextInt(64)) {
-            case 0: if (odds(30)) call("hand"); if (odds(20)) someReading(); if (odds(20)) someVersionsApart(); break;
+            case 0: if (odds(30)) call("hand"); if (odds(20)) someReading(); if (odds(20)) someVersionsApart(); if (odds(10)) someLongRow(); break;
             case 1: call("group", k(), wild(below(1 << plain.many(1)))); break;
             case 2: if (odds(50)) call("writing", hand()); break;
             case 3: case 4: someWords(odds(10) ? 60 : 6); break;
             case 5: case 6: case 7: call("seen", w, at(w), x(), stretch(8)); break;
             case 8: case 9: case 10: case 11: call("span", w, at(w), w(), moment(), one(6), stretch(12)); break;
             case 12: case 13: case 14: case 15: call("live", w, at(w), w(), one(6), stretch(12)); break;
-            case 16: case 17: case 18: call("cut", w, from, wild(1 + below(Math.min(size - from, odds(30) ? 300 : 6)))); break;
-            case 19: case 20: case 21: call("move", w, from, wild(1 + below(Math.min(size - from, 6))), at(w)); break;
+            case 16: case 17: case 18: call("cut", w, from, leaving(size - from, odds(30) ? 300 : 6)); break;
+            case 19: case 20: case 21: call("move", w, from, leaving(size - from, 6), at(w)); break;
             case 22: call("again", w, moment()); break;
             case 23: call("length", w, moment()); break;
             case 24: call("shown", w, moment(), from); break;
@@ -208,6 +210,30 @@ public final class TwinTest {
         }
     }
 
+    /** A row that goes on beyond what is shown of it, changed about the end of that. */
+    private void someLongRow() throws Exception {
+        int w = below(plain.many(2)), words = plain.many(3);
+        for (int k = 0; k < 12 && size(w) < 300; k++) {
+            if (odds(70)) call("seen", w, at(w), below(words), 1 + below(words));
+            else call("span", w, at(w), w(), moment(), below(4), 300);
+        }
+        for (int k = 0; k < 12; k++) {
+            int size = size(w), from = Math.max(0, size - 1 - below(12)), at = Math.max(0, size - below(3));
+            switch (below(7)) {
+                case 0: someWords(3); call("put", w, at, below(4), below(3), 0, 1); break;
+                case 1: call("seen", w, at, below(words), 1 + below(9)); break;
+                case 2: call("span", w, at, w(), moment(), below(4), 1 + below(20)); break;
+                case 3: call("live", w, at, w(), below(4), 1 + below(20)); break;
+                case 4: call("cut", w, from, odds(60) ? size - from : 1); break;
+                case 5: call("move", w, from, odds(60) ? size - from : 1, at(w)); break;
+                default: int first = below(size); call("move", w, first, leaving(size - first, 9), at);
+            }
+            call("pieces", w);
+            call("length", w, plain.many(0));
+        }
+        for (int p = 0; p < plain.pieces(w); p++) for (int k = 0; k < 5; k++) call("piece", w, p, k);
+    }
+
     /** A given version that others may read, lend, owe for. */
     private void someReading() throws Exception {
         int w = below(plain.many(2)), group = below(4), hands = plain.many(1);
@@ -251,6 +277,7 @@ public final class TwinTest {
             run.begin();
             for (int k = 0; k < seed % 4; k++) run.someVersionsApart();
             for (int k = 0; k < seed % 3; k++) run.someReading();
+            if (seed % 5 == 0) run.someLongRow();
             for (int k = 0; k < 40 + seed % 200 && !run.failed; k++) run.step();
             if (!run.failed) run.look();
         }
