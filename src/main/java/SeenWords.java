@@ -1292,7 +1292,7 @@ public final class SeenWords {
          * What is shown of a writing with so many spans and lives around it. Moments that have been stay as they
          * were, so what a slot holds never grows old; but it is to be used before the next one is asked for.
          */
-        Shown shownOf(int w, int moment, int around) {
+        private Shown shownOf(int w, int moment, int around) {
             int key = (moment * WRITINGS + w) * (NESTED + 1) + around;
             int slot = (key * -1640531535) >>> 22;
             if (slots[slot] == null) {
@@ -1335,7 +1335,8 @@ public final class SeenWords {
         }
 
         private static int stretch(Piece piece, int size) {
-            return Math.max(0, Math.min(piece.count, size - piece.first));
+            int there = size > piece.first ? size - piece.first : 0;
+            return there < piece.count ? there : piece.count;
         }
 
         /** How many places a piece shows, if nothing of it is left out. */
