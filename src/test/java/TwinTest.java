@@ -5,15 +5,30 @@ import java.util.HashMap;
 import java.util.List;
 import java.util.Map;
 import java.util.Random;
+import java.util.Set;
 
-/** Random runs of calls on SeenWords and on PlainWords: each answer of the one is that of the other. */
+/**
+ * Random runs of calls on SeenWords and on PlainWords: each answer of the one is that of the other. An object answers 512
+ * calls; where a run is longer, a new one goes on behind the calls of the run that changed something.
+ */
 public final class TwinTest {
     private static final Map<String, Method> REAL = methods(SeenWords.class), PLAIN = methods(PlainWords.class);
     private static final int[] WILD = {Integer.MIN_VALUE, Integer.MAX_VALUE, -1, -2, 1000, 500, 499, 300, 61, 60, 24, 12};
     private static int wrong;
     private static final Map<String, Integer> taken = new HashMap<>();
 
-    private final SeenWords real = new SeenWords();
+    private static final int CALLS = 512, CHANGES = 400;
+    private static final Set<String> LOOKING = Set.of("length", "shown", "pieces", "piece", "word", "about", "at", "compare",
+        "clash", "ofLink", "ends", "part", "ofRight", "may", "why", "view", "owes", "steps", "chain", "quotes", "hit", "seal",
+        "side", "prove", "stamp", "cell", "as", "trace", "fault", "many");
+    private static final Set<String> NAMING_FAULTS = Set.of("put", "link", "right", "seek", "prove", "sheet", "set", "cell", "copy", "as");
+
+    record Call(String name, Object[] args) { }
+
+    private SeenWords real = new SeenWords();
+    private int calls;
+    private final List<Call> changes = new ArrayList<>();
+    private Call lastNamingFaults;
     private final PlainWords plain = new PlainWords();
     private final Random random;
     private final List<String> told = new ArrayList<>();
@@ -28,16 +43,35 @@ public final class TwinTest {
         return all;
     }
 
-    private long call(String name, int... args) throws Exception {
-        Object[] boxed = Arrays.stream(args).boxed().toArray();
-        long due = ((Number) PLAIN.get(name).invoke(plain, boxed)).longValue();
-        long got;
+    private long ask(Call call) throws Exception {
+        calls++;
         try {
-            got = ((Number) REAL.get(name).invoke(real, boxed)).longValue();
+            return ((Number) REAL.get(call.name()).invoke(real, call.args())).longValue();
         } catch (java.lang.reflect.InvocationTargetException e) {
             e.getCause().printStackTrace();
-            got = 987654321;
+            return 987654321;
         }
+    }
+
+    private void goOnWithANewOne() throws Exception {
+        real = new SeenWords();
+        calls = 0;
+        for (Call call : changes) ask(call);
+    }
+
+    private boolean isLong() { return changes.size() > CHANGES; }
+
+    private long call(String name, int... args) throws Exception {
+        if (calls >= CALLS && changes.size() < CALLS) goOnWithANewOne();
+        Call call = new Call(name, Arrays.stream(args).boxed().toArray());
+        long due = ((Number) PLAIN.get(name).invoke(plain, call.args())).longValue();
+        long got = ask(call);
+        boolean changing = due >= 0 && !LOOKING.contains(name);
+        if (NAMING_FAULTS.contains(name)) {
+            changes.remove(lastNamingFaults);
+            lastNamingFaults = changing ? null : call;
+        }
+        if (changing || NAMING_FAULTS.contains(name)) changes.add(call);
         told.add(name + Arrays.toString(args) + " = " + due);
         if (due >= 0) taken.merge(name, 1, Integer::sum);
         if (got != due && !failed) {
@@ -234,6 +268,31 @@ public final class TwinTest {
         for (int p = 0; p < plain.pieces(w); p++) for (int k = 0; k < 5; k++) call("piece", w, p, k);
     }
 
+    /** Rows that show one another, five deep, changed where they show gaps and where they do not yet. */
+    private void someDepth() throws Exception {
+        int hand = 0, first = plain.many(2);
+        while (plain.many(2) < Math.min(12, first + 6)) call("writing", hand);
+        int last = plain.many(2) - 1;
+        call("seen", first, 0, 0, Math.min(5, plain.many(3)));
+        for (int w = first + 1; w <= last; w++) {
+            if (odds(70)) call("live", w, 0, w - 1, below(2), 9);
+            else call("span", w, 0, w - 1, plain.many(0), below(2), 9);
+            if (odds(30)) call("seen", w, at(w), x(), 1 + below(2));
+        }
+        for (int k = 0; k < 14; k++) {
+            int w = last - below(4), size = size(w), from = below(size);
+            switch (below(6)) {
+                case 0: call("seen", w, at(w), x(), 1 + below(3)); break;
+                case 1: call("cut", w, from, leaving(size - from, 3)); break;
+                case 2: call("move", w, from, leaving(size - from, 3), at(w)); break;
+                case 3: call("live", w, at(w), below(last + 1), below(3), 1 + below(9)); break;
+                case 4: call("again", w, Math.max(0, plain.many(0) - below(9))); break;
+                default: call("version", w); call("steps", plain.many(4) - 1, below(size)); call("chain", plain.many(4) - 1, below(size), below(6));
+            }
+            for (int p = 0; p < Math.min(9, size(w)); p++) call("shown", w, plain.many(0), p);
+        }
+    }
+
     /** A given version that others may read, lend, owe for. */
     private void someReading() throws Exception {
         int w = below(plain.many(2)), group = below(4), hands = plain.many(1);
@@ -265,12 +324,12 @@ public final class TwinTest {
         someWords(12);
         someWords(6);
         if (odds(20)) {
-            for (int k = 0; k < 6; k++) someWords(60);
+            for (int k = 0; k < 3; k++) someWords(60);
         }
     }
 
     public static void main(String[] args) throws Exception {
-        int runs = args.length > 0 ? Integer.parseInt(args[0]) : 150;
+        int runs = args.length > 0 ? Integer.parseInt(args[0]) : 300;
         long first = args.length > 1 ? Long.parseLong(args[1]) : 1;
         for (long seed = first; seed < first + runs && wrong < 3; seed++) {
             TwinTest run = new TwinTest(seed);
@@ -278,7 +337,8 @@ public final class TwinTest {
             for (int k = 0; k < seed % 4; k++) run.someVersionsApart();
             for (int k = 0; k < seed % 3; k++) run.someReading();
             if (seed % 5 == 0) run.someLongRow();
-            for (int k = 0; k < 40 + seed % 200 && !run.failed; k++) run.step();
+            if (seed % 5 == 1) run.someDepth();
+            for (int k = 0; k < 40 + seed % 200 && !run.failed && !run.isLong(); k++) run.step();
             if (!run.failed) run.look();
         }
         if (args.length > 2) System.out.println(taken);
