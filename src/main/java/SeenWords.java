@@ -21,7 +21,8 @@ public final class SeenWords {
     private static final int NESTED = 4;
     /** More moments than the 512 calls of an object can make; later acts stay at the last one. */
     private static final int MOMENTS = 600;
-    private static final int NEVER = Integer.MAX_VALUE;
+    /** Behind all moments. */
+    private static final int NEVER = 2147483647;
 
     private int now;
     private int hands;
@@ -622,7 +623,7 @@ public final class SeenWords {
 
     /** What a reader owes for one word, shared between the hand of the version's writing and the word's. */
     private int owe(int reader, int shower, int writer) {
-        if (writer == reader || !isHand(writer)) {
+        if (writer == reader || !isHand(writer) || !isHand(shower)) {
             return 0;
         }
         int price = terms / 100;
@@ -899,19 +900,41 @@ public final class SeenWords {
 
     public int tell(int l) {
         Link link = linkAt(l);
-        return link == null ? UNKNOWN : toldAs(link, link.kind);
+        if (link == null) {
+            return UNKNOWN;
+        }
+        switch (link.kind) {
+            case NOTE: return tellNote(link);
+            case REPLY: return tellReply(link);
+            case SAME: return tellSame(link);
+            case CORRECT: return tellCorrect(link);
+            default: return tellLink(link);
+        }
     }
 
-    /** The body of a kind, run for a link; bodies call those of kinds above them, three deep at most. */
-    private int toldAs(Link link, int kind) {
-        noteBody(kind + 1);
-        switch (kind) {
-            case NOTE: return toldAs(link, LINK) + link.counts[1];
-            case REPLY: return toldAs(link, NOTE) + toldAs(link, LINK);
-            case SAME: return toldAs(link, LINK) + 100;
-            case CORRECT: return toldAs(link, SAME) + toldAs(link, LINK);
-            default: return link.counts[0];
-        }
+    private int tellLink(Link link) {
+        noteBody(1);
+        return link.counts[0];
+    }
+
+    private int tellNote(Link link) {
+        noteBody(2);
+        return tellLink(link) + link.counts[1];
+    }
+
+    private int tellReply(Link link) {
+        noteBody(3);
+        return tellNote(link) + tellLink(link);
+    }
+
+    private int tellSame(Link link) {
+        noteBody(4);
+        return tellLink(link) + 100;
+    }
+
+    private int tellCorrect(Link link) {
+        noteBody(5);
+        return tellSame(link) + tellLink(link);
     }
 
     private void noteBody(int body) {
